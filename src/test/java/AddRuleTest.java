@@ -18,6 +18,7 @@ public final class AddRuleTest {
         circles();
         notCircles();
         manyLayers();
+        bodiesAboveMinus();
         smallestSets();
         Check.finish();
     }
@@ -162,15 +163,43 @@ public final class AddRuleTest {
                 }
             }
         }
-        // The sixth level: all of the chain's relations are heads or the bottom.
+        deepChain("11", new String[] {"11", "11", "", "11", "", "11"});
+        deepChain("22", new String[] {"11", "22", "11", "", "11", ""});
+    }
+
+    /** Six levels, the most there can be; the rules stand in the order that helps least. */
+    private static void deepChain(String factsOf1, String[] due) {
         DatalogDelta d = new DatalogDelta();
         for (int k = 5; k > 0; k--) {
             Check.same("P2 deep chain", d.addRule(MINUS, Check.pack(k, 0, k - 1)), 6 - k);
         }
         Check.addAll(d, 0, "11");
-        String[] due = {"11", "", "11", "", "11", ""};
+        Check.addAll(d, 1, factsOf1);
         for (int k = 0; k < 6; k++) {
             Check.couplesAre("P2 deep chain", d, k, due[k]);
+        }
+    }
+
+    /** A relation stands as high as each of its bodies, whatever the shape. */
+    private static void bodiesAboveMinus() {
+        int[] shapes = {COPY, TURN, JOIN, BOTH, MINUS};
+        for (int shape : shapes) {
+            for (int swap = 0; swap < 2; swap++) {
+                if (swap == 1 && shape == MINUS) {
+                    continue;
+                }
+                boolean one = shape == COPY || shape == TURN;
+                DatalogDelta d = new DatalogDelta();
+                d.addRule(MINUS, Check.pack(5, 0, 4));
+                d.addRule(shape, swap == 0 || one ? Check.pack(4, 3, 1) : Check.pack(4, 1, 3));
+                d.addRule(MINUS, Check.pack(3, 0, 2));
+                Check.addAll(d, 0, "00 11 22");
+                Check.addAll(d, 2, "11");
+                Check.addAll(d, 1, shape == MINUS ? "55" : "00 22");
+                Check.couplesAre("P2 lowest MINUS, shape " + shape, d, 3, "00 22");
+                Check.couplesAre("P2 between, shape " + shape, d, 4, "00 22");
+                Check.couplesAre("P2 highest MINUS, shape " + shape, d, 5, "11");
+            }
         }
     }
 
@@ -187,7 +216,6 @@ public final class AddRuleTest {
         all.addRule(JOIN, Check.pack(0, 0, 0));
         Check.addAll(all, 0, "01 12 23 34 45 50");
         Check.same("P2 a ring reaches all", all.count(0), 36);
-        // Couples that have no way to come in one step: 5 takes what the ring does not reach.
         all.remove(0, 5, 0);
         all.addRule(TURN, Check.pack(1, 0, 0));
         all.addRule(MINUS, Check.pack(2, 1, 0));

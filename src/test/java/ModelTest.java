@@ -46,21 +46,23 @@ public final class ModelTest {
         PlainModel m = new PlainModel();
         // Runs over few relations meet circles and deep layers more often.
         int relations = 2 + run % 5;
+        // With few numbers, remove meets facts and JOIN meets joints more often.
+        int span = 2 + run / 5 % 5;
         // Some runs look at every row, and are short; the others count, and are long.
         boolean rows = run % 3 == 0;
         StringBuilder told = new StringBuilder("run " + run + ":");
         int wrongBefore = Check.wrongSoFar();
         int calls = 0;
         while (calls + MOST_CALLS_A_STEP <= MOST_CALLS && Check.wrongSoFar() == wrongBefore) {
-            change(d, m, relations, told);
+            change(d, m, relations, span, told);
             calls += 1 + compare(d, m, told.toString(), rows);
         }
     }
 
-    private static void change(DatalogDelta d, PlainModel m, int relations, StringBuilder told) {
+    private static void change(DatalogDelta d, PlainModel m, int relations, int span, StringBuilder told) {
         int r = mostlyBelow(relations);
-        int x = mostlyBelow(6);
-        int y = mostlyBelow(6);
+        int x = mostlyBelow(span);
+        int y = mostlyBelow(span);
         switch (below(8)) {
             case 0:
             case 1:
@@ -76,6 +78,7 @@ public final class ModelTest {
                 Check.same(told.toString(), d.dropRule(i), m.dropRule(i));
                 break;
             case 3:
+            case 4:
                 told.append(" remove(" + r + ", " + x + ", " + y + ")");
                 Check.same(told.toString(), d.remove(r, x, y), m.setFact(r, x, y, false));
                 break;
